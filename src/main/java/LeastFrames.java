@@ -713,7 +713,8 @@ public final class LeastFrames {
         int rows;
         int columns;
 
-        void lay(Ground ground) {
+        /** Columns of bars that are not allowed are all 0, so that none of them ever enters. */
+        void lay(Ground ground, int allowed) {
             long[] first = cells[0];
             columns = ground.pairs();
             rows = 0;
@@ -725,7 +726,7 @@ public final class LeastFrames {
                 }
                 int at = rows * WIDTH;
                 for (int k = 0; k < columns; k++) {
-                    first[at + k] = ground.brought(k, way);
+                    first[at + k] = (allowed >> k & 1) == 0 ? 0 : ground.brought(k, way);
                 }
                 first[at + columns] = -ground.loads[way];
                 rows++;
@@ -816,6 +817,11 @@ public final class LeastFrames {
         private final Tableau tableau;
         private final int[] next = new int[Tableau.MOST_LEVELS];
         private int size;
+        /** The bars that were asked for last, and what was answered. */
+        private int asked = NONE;
+        private int answer = NONE;
+        /** The set whose pulls these are. */
+        private int pullsOf = NONE;
 
         Bearers(Tableau tableau) {
             this.tableau = tableau;
@@ -823,7 +829,9 @@ public final class LeastFrames {
 
         void gather(Ground ground, int allowed) {
             size = 0;
-            tableau.lay(ground);
+            asked = NONE;
+            pullsOf = NONE;
+            tableau.lay(ground, allowed);
             if (tableau.bears(0)) {
                 keep(ground, 0);
                 return;
@@ -837,7 +845,7 @@ public final class LeastFrames {
                     continue;
                 }
                 next[level] = column + 1;
-                if ((allowed >> column & 1) == 0 || !tableau.enter(level, column)) {
+                if (!tableau.enter(level, column)) {
                     continue;
                 }
                 if (tableau.bears(level + 1)) {
@@ -871,6 +879,9 @@ public final class LeastFrames {
 
         /** Of the sets within some bars the cheapest, of like ones the least; NONE, if there is none. */
         int leastWithin(int bars) {
+            if (bars == asked) {
+                return answer;
+            }
             int best = NONE;
             for (int i = 0; i < size; i++) {
                 if ((sets[i] & ~bars) != 0) {
@@ -880,6 +891,8 @@ public final class LeastFrames {
                     best = i;
                 }
             }
+            asked = bars;
+            answer = best;
             return best;
         }
 
@@ -904,11 +917,14 @@ public final class LeastFrames {
         }
 
         void solve(Ground ground, int set) {
-            tableau.lay(ground);
+            if (set == pullsOf) {
+                return;
+            }
+            tableau.lay(ground, set);
             int level = 0;
             for (int k = 0; k < MOST_PAIRS; k++) {
                 pulls[k] = 0;
-                if ((set >> k & 1) != 0 && tableau.enter(level, k)) {
+                if (k < tableau.columns && tableau.enter(level, k)) {
                     level++;
                 }
             }
@@ -917,6 +933,7 @@ public final class LeastFrames {
                 pulls[tableau.columnOf[i]] = tableau.solved[i];
             }
             pullsBelow = tableau.pivots[level];
+            pullsOf = set;
         }
     }
 

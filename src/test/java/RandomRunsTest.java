@@ -36,12 +36,25 @@ public final class RandomRunsTest {
     }
 
     private void build() {
-        int n = any(0, 5);
+        int n = random.nextInt(4) > 0 ? any(4, 5) : any(0, 3);
         for (int i = 0; i < n; i++) point();
-        for (int i = 0; i < n; i++) if (random.nextInt(3) > 0) hold(i, random.nextInt(3) > 0 ? 3 : any(0, 3));
-        for (int i = 0; i < 3 && n > 0; i++) load(any(0, n - 1), any(0, 1), any(-9, 9));
-        if (random.nextInt(3) > 0) same("all", x.all(), y.all());
-        for (int i = 0; i < 4; i++) { int k = any(0, 9); same("bar", x.bar(k), y.bar(k)); }
+        for (int i = 0; i < n; i++) {
+            int kind = random.nextInt(8);
+            hold(i, kind < 3 ? 3 : kind < 6 ? 0 : any(0, 3));
+        }
+        for (int i = 0; i < 4 && n > 0; i++) load(any(0, n - 1), any(0, 1), any(-9, 9));
+        if (random.nextInt(4) > 0) same("all", x.all(), y.all());
+        int toggles = any(0, 5);
+        for (int i = 0; i < toggles; i++) { int k = any(0, 9); same("bar", x.bar(k), y.bar(k)); }
+    }
+
+    private void price() {
+        int[] shifts = y.likelyPrices();
+        if (shifts == null) return;
+        for (int way = 0; way < shifts.length; way++) {
+            same("shift", x.shift(way / 2, way % 2, shifts[way]), y.shift(way / 2, way % 2, shifts[way]));
+        }
+        same("proves", x.proves(), y.proves());
     }
 
     private void point() {
@@ -55,7 +68,7 @@ public final class RandomRunsTest {
 
     private void step() {
         int k = near(0, 9), p = near(0, 4), axis = near(0, 1), what = near(0, 1), s = near(0, 3);
-        switch (random.nextInt(43)) {
+        switch (random.nextInt(45)) {
             case 0: if (random.nextInt(3) == 0) same("back", x.back(), y.back()); break;
             case 1: point(); break;
             case 2: hold(p, near(0, 3)); break;
@@ -93,6 +106,7 @@ public final class RandomRunsTest {
                 same("copy", x.copy(s, i, t, j, n), y.copy(s, i, t, j, n)); break; }
             case 38: case 39: same("write", x.write(s), y.write(s)); break;
             case 40: { int w = near(0, 8); same("count " + w, x.count(w), y.count(w)); break; }
+            case 41: case 42: price(); break;
             default: whole();
         }
     }
@@ -108,6 +122,8 @@ public final class RandomRunsTest {
 
     private void go(int steps) {
         build();
+        whole();
+        price();
         whole();
         for (int i = 0; i < steps; i++) step();
         whole();

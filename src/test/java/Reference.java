@@ -137,6 +137,11 @@ final class Reference {
             for (int j = 0; j < n; j++) m[i][j] = Fraction.of(brings(bs.get(j), ways.get(i)));
             m[i][n] = Fraction.of(-loadAt(ways.get(i)));
         }
+        return reduced(m, n);
+    }
+
+    /** Some solution of equations in n unknowns, null if there is none. */
+    private static Fraction[] reduced(Fraction[][] m, int n) {
         int done = 0;
         Fraction[] q = new Fraction[n];
         java.util.Arrays.fill(q, Fraction.ZERO);
@@ -165,6 +170,28 @@ final class Reference {
             if (rowOf[j] >= 0) q[j] = m[rowOf[j]][n];
         }
         return q;
+    }
+
+    /**
+     * Shifts in twelfths, by way of all points, that stretch each bar of FRAME just by its QUAD, the
+     * way that it pulls; null, if there are none in twelfths. They are the likely prices of LEAST.
+     */
+    int[] likelyPrices() {
+        if (leastOf(bars) == null) return null;
+        List<Integer> ways = ways(), bs = members(frameOf(bars));
+        Fraction[][] m = new Fraction[bs.size()][ways.size() + 1];
+        for (int i = 0; i < bs.size(); i++) {
+            for (int j = 0; j < ways.size(); j++) m[i][j] = Fraction.of(-brings(bs.get(i), ways.get(j)));
+            m[i][ways.size()] = Fraction.of(pullOf(bs.get(i)).sign() * quad(bs.get(i)));
+        }
+        Fraction[] u = reduced(m, ways.size());
+        int[] shifts = new int[2 * spots.size()];
+        for (int j = 0; j < ways.size(); j++) {
+            Fraction twelfths = u[j].times(Fraction.of(12));
+            if (twelfths.part(1) != 1 || out(twelfths.part(0), -999, 999)) return null;
+            shifts[ways.get(j)] = (int) twelfths.part(0);
+        }
+        return shifts;
     }
 
     private int faultOf(int set) {
