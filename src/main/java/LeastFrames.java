@@ -1011,7 +1011,7 @@ public final class LeastFrames {
             for (int one = 0; one < MOST_PAIRS; one++) {
                 for (int other = one + 1; other < MOST_PAIRS; other++) {
                     boolean both = (set >> one & 1) != 0 && (set >> other & 1) != 0;
-                    if (both && !touch(one, other) && meet(ground, one, other)) {
+                    if (both && meet(ground, one, other)) {
                         passed++;
                         if (passed - 1 == wanted) {
                             return passed;
@@ -1022,11 +1022,7 @@ public final class LeastFrames {
             return passed;
         }
 
-        private static boolean touch(int one, int other) {
-            return LESSER[one] == LESSER[other] || LESSER[one] == GREATER[other]
-                || GREATER[one] == LESSER[other] || GREATER[one] == GREATER[other];
-        }
-
+        /** Bars with a point in common need no test of their own: they meet at an end or lie alike. */
         private boolean meet(Ground ground, int one, int other) {
             int dx = ground.runs[2 * one];
             int dy = ground.runs[2 * one + 1];

@@ -49,6 +49,7 @@ public final class GroundPromisesTest {
         due("2 point at the least edge", x.point(0, 0), 0);
         due("2 point at the greatest edge", x.point(4, 4), 1);
         due("2 there is one there", x.point(4, 4), LeastFrames.NOT);
+        due("2 there is one there, the first", x.point(0, 0), LeastFrames.NOT);
         due("2 x below", x.point(-1, 0), LeastFrames.BAD);
         due("2 x above", x.point(5, 0), LeastFrames.BAD);
         due("2 y below", x.point(0, -1), LeastFrames.BAD);
@@ -89,8 +90,24 @@ public final class GroundPromisesTest {
         due("3 there is none", x.back(), LeastFrames.NOT);
         LeastFrames y = Due.bracket();
         y.all();
+        due("3 before", y.least(0), 82);
         y.back();
         due("3 its loads are gone", y.least(0), 0);
+        LeastFrames z = Due.points(0, 0, 1, 0, 2, 0, 3, 0, 4, 0);
+        for (int p = 3; p <= 4; p++) {
+            z.load(p, 0, p);
+            z.load(p, 1, -p);
+            z.shift(p, 0, p);
+            z.shift(p, 1, -p);
+        }
+        z.back();
+        z.back();
+        z.point(3, 3);
+        z.point(4, 4);
+        for (int what = 3; what <= 6; what++) {
+            due("3 nothing is kept of 3 " + what, z.info(3, what), 0);
+            due("3 nothing is kept of 4 " + what, z.info(4, what), 0);
+        }
     }
 
     private static void hold() {

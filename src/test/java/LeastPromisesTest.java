@@ -17,6 +17,8 @@ public final class LeastPromisesTest {
         would();
         wouldBe();
         changesAreSeen();
+        pointIsSeen();
+        sevenBars();
         Due.end();
     }
 
@@ -254,6 +256,15 @@ public final class LeastPromisesTest {
         due("18 alike: the least", twoLines(3).dearest(), 1);
         due("18 the greater", twoLines(4).dearest(), 4);
         due("18 the greater", twoLines(2).dearest(), 1);
+        x = line();
+        x.point(3, 0);
+        x.load(3, 0, 2);
+        x.bar(0);
+        x.bar(1);
+        x.bar(4);
+        x.bar(5);
+        due("18 needed", x.needed(), 33);
+        due("18 the first is the greater", x.dearest(), 0);
         // Bar 0 is needed, but less so than bar 4, without which point 3 has nothing to hang from.
         x = line();
         x.point(0, 2);
@@ -371,9 +382,13 @@ public final class LeastPromisesTest {
         fraction("22 by thirds", x.would(2, 1, 5, 0), x.would(2, 1, 5, 1), 205, 3);
         fraction("22 a load in x that spares bar 1", x.would(2, 0, 8, 0), x.would(2, 0, 8, 1), 50, 1);
         fraction("22 none", x.would(2, 1, 0, 0), x.would(2, 1, 0, 1), 0, 1);
+        x.load(0, 1, 4);
+        x.load(1, 0, -7);
         fraction("22 where it is held", x.would(0, 0, 9, 0), x.would(1, 1, -9, 1), 82, 1);
         due("22 the load stays", x.info(2, 4), -6);
         due("22 and so does that in x", x.info(2, 3), 0);
+        due("22 and those of 0", x.info(0, 3) * 100 + x.info(0, 4), 4);
+        due("22 and those of 1", x.info(1, 3) * 100 + x.info(1, 4), -700);
         due("22 and the least", x.least(0), 82);
         due("22 and the pulls", x.pull(1, 0), -2);
         due("22 no such point", x.would(3, 0, 0, 0), Due.BAD);
@@ -398,6 +413,39 @@ public final class LeastPromisesTest {
         x.bar(2);
         // The load of 8 in x and -6 in y is along bar 2.
         due("22 along the bar", x.would(2, 0, 8, 0), 50);
+    }
+
+    /** A point in the midst of nothing, by which a load comes to be borne. */
+    private static void pointIsSeen() {
+        LeastFrames x = Due.points(0, 0, 4, 0);
+        x.hold(0, 3);
+        x.load(1, 0, 1);
+        due("no bar", x.least(0), Due.NOT);
+        x.point(2, 0);
+        x.bar(1);
+        x.bar(2);
+        due("two bars by another point", x.least(0), 4);
+        due("pull of the first", x.pull(1, 1), 2);
+    }
+
+    /** No more than seven bars ever are of a frame; these are, and pull by fractions. */
+    private static void sevenBars() {
+        LeastFrames x = Due.points(2, 4, 0, 2, 3, 0, 4, 4, 4, 1);
+        x.hold(0, 3);
+        x.hold(1, 2);
+        int[] loads = {-3, 0, 0, 3, 0, 3, -3, 1, 2, 3};
+        for (int way = 0; way < 10; way++) {
+            x.load(way / 2, way % 2, loads[way]);
+        }
+        x.all();
+        fraction("seven bars", x.least(0), x.least(1), 507, 5);
+        due("which ones", x.frame(), 719);
+        int[] above = {-13, -9, 3, -3, 0, 0, -9, 7, 0, 1};
+        int[] below = {4, 10, 10, 2, 1, 1, 5, 5, 1, 3};
+        for (int k = 0; k < 10; k++) {
+            fraction("pull of " + k, x.pull(k, 0), x.pull(k, 1), above[k], below[k]);
+        }
+        due("how many", x.count(3), 7);
     }
 
     /** Whatever changes points, holds, loads or bars is seen by all that asks for the least. */

@@ -67,6 +67,7 @@ public final class SheetPromisesTest {
     private static void put() {
         LeastFrames x = new LeastFrames();
         due("30 LOST", x.put(2, 0, 0, 1), NULL);
+        due("30 the finding", x.count(8), 1);
         x.sheet(2, 0, 3);
         due("30 ints", x.put(2, 0, 0, Integer.MIN_VALUE), 1);
         due("30 ints", x.put(2, 0, 2, Integer.MAX_VALUE), 1);
@@ -180,6 +181,7 @@ public final class SheetPromisesTest {
         due("32 STORE even of none", x.copy(2, 0, 0, 0, 0), STORE);
         due("32 STORE ahead of INDEX", x.copy(0, -1, 2, 0, 1), STORE);
         due("32 from LOST", x.copy(3, 0, 0, 0, 1), NULL);
+        due("32 the finding", x.count(8), 1);
         due("32 to LOST", x.copy(0, 0, 3, 0, 1), NULL);
         due("32 NULL ahead of INDEX", x.copy(0, -1, 3, 0, 1), NULL);
         due("32 NULL ahead of STORE", x.copy(2, 0, 3, 0, 1), NULL);
@@ -230,11 +232,13 @@ public final class SheetPromisesTest {
         LeastFrames y = Due.points(0, 0, 1, 0, 2, 0, 3, 0, 4, 0);
         y.hold(0, 3);
         y.load(4, 0, 9);
+        y.load(1, 0, -4);
+        y.bar(0);
         y.bar(9);
         y.bar(3);
         y.sheet(1, 0, 40);
         due("33 all of five points", y.write(1), 20);
-        items("33", y, 1, 0, 1, 0, 1, 0, 1, 3, 1, 0, 1, 0, 1, 0, 1, 0, 1, 0, 1, 9, 1, 0, 0);
+        items("33", y, 1, -4, 1, 0, 1, 0, 1, 3, 1, 0, 1, 0, 1, 0, 1, 0, 1, 0, 1, 9, 1, 0, 0);
     }
 
     private static void count() {

@@ -9,6 +9,7 @@ public final class ShiftPromisesTest {
         cross();
         crossPlaces();
         crossInOrder();
+        crossOfNeighbours();
         crossNot();
         Due.end();
     }
@@ -181,6 +182,9 @@ public final class ShiftPromisesTest {
         x.load(3, 0, 0);
         x.load(3, 1, 0);
         due("27 one bar is not of the frame", x.cross(0, 0), LeastFrames.BAD);
+        x.load(1, 0, 0);
+        x.load(1, 1, 0);
+        due("27 no bar is of the frame", x.cross(0, 0), LeastFrames.BAD);
         x.load(3, 0, 1);
         due("27 UNBORNE", x.cross(0, 0), LeastFrames.NOT);
         due("27 UNBORNE ahead of not so many", x.cross(5, 0), LeastFrames.NOT);
@@ -190,12 +194,40 @@ public final class ShiftPromisesTest {
     }
 
     private static void crossPlaces() {
-        asCrossing(twoBars(0, 0, 4, 3, 0, 3, 3, 0), 0, 0, 5, 12, 7, 9, 7);
-        asCrossing(twoBars(4, 3, 0, 0, 0, 3, 3, 0), 0, 0, 5, 12, 7, 9, 7);
-        asCrossing(twoBars(0, 3, 3, 0, 0, 0, 4, 3), 0, 0, 5, 12, 7, 9, 7);
-        asCrossing(twoBars(0, 3, 3, 0, 4, 3, 0, 0), 0, 0, 5, 12, 7, 9, 7);
-        asCrossing(twoBars(2, 0, 2, 4, 0, 1, 4, 2), 0, 0, 5, 2, 1, 3, 2);
-        asCrossing(twoBars(0, 0, 1, 2, 0, 1, 1, 0), 0, 0, 5, 1, 3, 2, 3);
+        for (int turn = 0; turn < 8; turn++) {
+            asCrossing(turned(turn, 0, 0, 4, 3, 0, 3, 3, 0), 0, 0, 5, 12, 7, 9, 7);
+            asCrossing(turned(turn, 2, 0, 2, 4, 0, 1, 4, 2), 0, 0, 5, 2, 1, 3, 2);
+            asCrossing(turned(turn, 0, 0, 1, 2, 0, 1, 1, 0), 0, 0, 5, 1, 3, 2, 3);
+            asCrossing(turned(turn, 0, 0, 1, 1, 0, 1, 1, 0), 0, 0, 5, 1, 2, 1, 2);
+        }
+    }
+
+    /** The same two bars from their other ends (bits 1, 2), or in the other order (bit 4). */
+    private static LeastFrames turned(int turn, int... p) {
+        int a = (turn & 1) == 0 ? 0 : 2;
+        int b = (turn & 2) == 0 ? 0 : 2;
+        int first = (turn & 4) == 0 ? 0 : 4;
+        int second = 4 - first;
+        return twoBars(p[first + a], p[first + a + 1], p[first + 2 - a], p[first + 3 - a],
+            p[second + b], p[second + b + 1], p[second + 2 - b], p[second + 3 - b]);
+    }
+
+    /** Bars 2 (points 1, 2) and 3 (points 0, 3). */
+    private static void crossOfNeighbours() {
+        LeastFrames x = Due.points(0, 1, 1, 0, 2, 4, 4, 2);
+        x.hold(0, 3);
+        x.hold(1, 3);
+        x.load(2, 0, 1);
+        x.load(2, 1, 4);
+        x.load(3, 0, 4);
+        x.load(3, 1, 1);
+        x.bar(2);
+        x.bar(3);
+        due("27 frame", x.frame(), 12);
+        // y = 4 (x - 1) and y = 1 + x / 4
+        asCrossing(x, 0, 2, 3, 4, 3, 4, 3);
+        due("27 how many", x.count(6), 1);
+        due("27 not so many", x.cross(1, 0), LeastFrames.BAD);
     }
 
     private static void crossInOrder() {
@@ -240,13 +272,13 @@ public final class ShiftPromisesTest {
     }
 
     private static void crossNot() {
-        none("one ends within the other", twoBars(0, 0, 4, 0, 2, 0, 2, 4), 33);
-        none("the other ends within the one", twoBars(2, 0, 2, 4, 0, 4, 4, 4), 33);
-        none("one stops short of the other", twoBars(0, 0, 4, 0, 2, 1, 2, 4), 33);
-        none("the other stops short of the one", twoBars(2, 1, 2, 4, 0, 0, 4, 0), 33);
-        none("one is over the other's end", twoBars(2, 0, 2, 4, 3, 1, 4, 1), 33);
-        none("alike in their course", twoBars(0, 0, 4, 4, 0, 1, 3, 4), 33);
-        none("along each other", twoBars(0, 0, 3, 0, 1, 0, 4, 0), 33);
+        for (int turn = 0; turn < 8; turn++) {
+            none("one ends within the other", turned(turn, 0, 0, 4, 0, 2, 0, 2, 4), 33);
+            none("one stops short of the other", turned(turn, 0, 0, 4, 0, 2, 1, 2, 4), 33);
+            none("one is far from the other's end", turned(turn, 2, 0, 2, 4, 3, 1, 4, 1), 33);
+            none("alike in their course", turned(turn, 0, 0, 4, 4, 0, 1, 3, 4), 33);
+            none("along each other", turned(turn, 0, 0, 3, 0, 1, 0, 4, 0), 33);
+        }
         none("a point in common", bracket(), 6);
     }
 
