@@ -93,6 +93,14 @@ final class GroundEdges {
                 due("it goes", x.back(), p);
             }
         }
+        x = Due.points(0, 0, 4, 0);
+        x.hold(0, 3);
+        x.load(1, 0, 1);
+        due("no bar bears it", x.frame(), NOT);
+        x.point(2, 0);
+        x.bar(1);
+        x.bar(2);
+        due("two bars by one more point do", x.frame(), 6);
     }
 
     private static void pointBad() {
@@ -146,6 +154,12 @@ final class GroundEdges {
             x.point(n - 1, 0);
             due("bars do not come back", x.count(1), 0);
         }
+        x = Due.bracket();
+        due("its load is UNBORNE", x.fault(), 5);
+        due("its load is UNBORNE", x.frame(), NOT);
+        x.back();
+        due("its load is gone", x.fault(), NONE);
+        due("its load is gone", x.frame(), 0);
     }
 
     private static void backNot() {
@@ -296,6 +310,15 @@ final class GroundEdges {
         x.sheet(0, 1, 40);
         due("where it is held, too", x.read(0), 10);
         due("it is read", x.info(2, 4), 0);
+        x = Due.bracket();
+        x.all();
+        x.sheet(0, 0, 6);
+        due("the load as it was told", x.least(0), 82);
+        due("none", x.read(0), 6);
+        due("nothing to bear", x.least(0), 0);
+        x.put(0, 0, 5, -3);
+        due("another one", x.read(0), 6);
+        due("half as much", x.least(0), 41);
     }
 
     private static void readStops() {

@@ -1,4 +1,5 @@
 import java.util.List;
+import java.util.Random;
 
 /** Boundary cases of promises 11 to 22: the least. */
 final class LeastEdges {
@@ -126,6 +127,23 @@ final class LeastEdges {
         x.all();
         x.load(2, 1, -5);
         due("by thirds", x.least(0), x.least(1), 205, 3);
+        alongEachPair();
+    }
+
+    /** Nothing is held, and all bars are there: what pulls two points apart is best borne between them. */
+    private static void alongEachPair() {
+        for (int k = 0; k < 10; k++) {
+            LeastFrames x = Due.points(0, 0, 4, 1, 1, 4, 3, 3, 2, 0);
+            x.all();
+            int i = x.pair(k, 0), j = x.pair(k, 1);
+            for (int axis = 0; axis < 2; axis++) {
+                int apart = x.info(j, axis) - x.info(i, axis);
+                x.load(i, axis, -apart);
+                x.load(j, axis, apart);
+            }
+            due("along pair " + k, x.least(0), x.least(1), x.pair(k, 2), 1);
+            due("by pair " + k, x.frame(), 1 << k);
+        }
     }
 
     private static void leastRefused() {
@@ -146,6 +164,7 @@ final class LeastEdges {
             x.load(way / 2, way % 2, way % 2 == 0 ? 9 : -9);
             due("the first of those that are loaded", x.fault(), way);
         }
+        faultByHolding();
         Sentence.of(12, "NONE: they are not UNBORNE");
         for (State state : BORNE) {
             due(state + " fault", state.make().fault(), NONE);
@@ -158,6 +177,42 @@ final class LeastEdges {
             x.load(p, 1, -9);
         }
         due("no WAYS", x.fault(), NONE);
+    }
+
+    /** Were all ways behind FAULT held, the loads were still UNBORNE; were it held, too, they were not. */
+    private static void faultByHolding() {
+        int unborne = 0;
+        for (int n = 0; n < 400; n++) {
+            LeastFrames x = scattered(n);
+            int fault = x.fault();
+            due("whether " + n + " has a fault", fault == NONE ? 1 : 0, x.count(5));
+            if (fault >= 0) {
+                unborne++;
+                for (int way = 9; way > fault; way--) {
+                    x.hold(way / 2, x.info(way / 2, 2) | 1 + way % 2);
+                }
+                due("the ways up to it, of " + n, x.count(5), 0);
+                x.hold(fault / 2, x.info(fault / 2, 2) | 1 + fault % 2);
+                due("the ways ahead of it, of " + n, x.count(5), 1);
+            }
+        }
+        due("some are UNBORNE, some are not", unborne > 100 && unborne < 300 ? 1 : 0, 1);
+    }
+
+    /** Five points here and there, of which some are held, some loaded, and some pairs are bars. */
+    private static LeastFrames scattered(int n) {
+        Random random = new Random(n);
+        LeastFrames x = new LeastFrames();
+        for (int i = 0; i < 60 && x.count(0) < 5; i++) {
+            x.point(random.nextInt(5), random.nextInt(5));
+        }
+        for (int p = 0; p < 5; p++) {
+            x.hold(p, random.nextInt(3) == 0 ? random.nextInt(4) : 0);
+            x.load(p, random.nextInt(2), random.nextInt(3) == 0 ? random.nextInt(19) - 9 : 0);
+        }
+        x.hold(n % 5, 3);
+        setBars(x, random.nextInt(1024) | random.nextInt(1024) | random.nextInt(1024));
+        return x;
     }
 
     private static void frame() {
@@ -313,6 +368,16 @@ final class LeastEdges {
         due("the dearest of two", twoLines(8, 9).dearest(), 4);
         due("the dearest of two", twoLines(9, 8).dearest(), 1);
         due("alike, without their signs", twoLines(-9, 9).dearest(), 1);
+        LeastFrames y = line();
+        y.point(3, 0);
+        for (int k : new int[] {0, 1, 4, 5}) {
+            y.bar(k);
+        }
+        for (int v = 1; v <= 9; v++) {
+            y.load(3, 0, v);
+            due("needed", y.needed(), 33);
+            due("pair 0 with 3, or pair 5 with " + v, y.dearest(), v <= 3 ? 0 : 5);
+        }
         LeastFrames x = Due.points(0, 0, 1, 0, 2, 0, 3, 0, 4, 0);
         x.hold(3, 3);
         x.load(4, 0, 1);

@@ -253,16 +253,16 @@ final class ShiftEdges {
         due("a bar that is not of FRAME any more", x.cross(0, 0), BAD);
     }
 
-    /** All two bars between four places of a small grid. */
+    /** All two bars between four of nine places. */
     private static void crossPlaces() {
         Sentence.of(27, "Of the k-th two BARS that CROSS");
         int met = 0;
-        for (int code = 0; code < 9 * 9 * 9 * 9; code += 5) {
+        for (int code = 0; code < 9 * 9 * 9 * 9; code++) {
             int[] at = {code % 9, code / 9 % 9, code / 81 % 9, code / 729};
             int[] places = new int[8];
             for (int p = 0; p < 4; p++) {
-                places[2 * p] = at[p] % 3 * 2;
-                places[2 * p + 1] = at[p] / 3 + p % 2;
+                places[2 * p] = at[p] % 3 + 2;
+                places[2 * p + 1] = at[p] / 3 + 1;
             }
             if (distinct(places)) {
                 LeastFrames x = twoBars(places);

@@ -172,37 +172,49 @@ final class TellEdges {
         due("digest of one point, UNBORNE", x.digest(), whole(told).mod(ROUND).longValue());
     }
 
-    private static void digestPoints() {
-        Sentence.of(35, "of POINTS info() 0 to 6");
+    private static LeastFrames somePoints(int points) {
         LeastFrames x = new LeastFrames();
-        for (int p = 0; p < 5; p++) {
+        for (int p = 0; p < points; p++) {
             x.point(p, 4 - p);
             x.hold(p, p % 4);
             x.shift(p, 1, 999 - p);
-            x.load(p, p % 2, p % 2 == 0 && p % 4 != 3 ? 0 : 9);
-            asTold(p + 1 + " points", x);
+            x.load(p, p % 2, p % 2 == 0 ? 0 : 9);
         }
-        while (x.count(0) > 0) {
-            x.back();
-            asTold(x.count(0) + " points are left", x);
+        return x;
+    }
+
+    private static void digestPoints() {
+        Sentence.of(35, "of POINTS info() 0 to 6");
+        for (int points = 0; points <= 5; points++) {
+            asTold(points + " points", somePoints(points));
+            LeastFrames x = somePoints(5);
+            for (int p = 5; p > points; p--) {
+                x.back();
+            }
+            asTold(points + " points are left", x);
         }
     }
 
     private static void digestPairs() {
         Sentence.of(35, "of PAIRS of POINTS that there are pair() 0 to 3, pull(it, 0 and 1), stretch(it, 0 and 1), and of"
             + " BARS without(it, 0 and 1), why(), of others gain(it, 0 and 1)");
-        LeastFrames x = State.FULL.make();
-        for (int k = 0; k < 10; k++) {
-            asTold("one pair after the other is no bar, " + k, x);
-            x.bar(k);
+        for (int gone = 0; gone <= 10; gone++) {
+            LeastFrames x = State.FULL.make();
+            for (int k = 0; k < gone; k++) {
+                x.bar(k);
+            }
+            asTold("the first pairs, " + gone + ", are no bars", x);
         }
-        asTold("no bars", x);
-        LeastFrames y = LeastEdges.tower(747, 3, 6, 0, 0, 2, 1, 0, 4, 4, 4, 1, 2);
-        asTold("bars that would save", y);
-        y.grow();
-        asTold("bars that grew", y);
-        y.prune();
-        asTold("bars that are left", y);
+        for (int turn = 0; turn < 3; turn++) {
+            LeastFrames y = LeastEdges.tower(747, 3, 6, 0, 0, 2, 1, 0, 4, 4, 4, 1, 2);
+            if (turn > 0) {
+                y.grow();
+            }
+            if (turn > 1) {
+                y.prune();
+            }
+            asTold("bars that would save, that grew, that are left: " + turn, y);
+        }
     }
 
     private static void digestWork() {

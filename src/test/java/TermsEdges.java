@@ -627,8 +627,12 @@ final class TermsEdges {
             + " at a place that is within both, no POINT of either";
         of(words);
         due("within both", ShiftEdges.twoBars(0, 0, 4, 4, 0, 4, 4, 0).count(6), 1);
-        due("a bar that is not of FRAME", ShiftEdges.oneLoaded(0, 0, 4, 4, 0, 4, 4, 0).count(6), 0);
-        LeastFrames x = Due.bracket();
+        due("the greater one is not of FRAME", ShiftEdges.oneLoaded(0, 0, 4, 4, 0, 4, 4, 0).count(6), 0);
+        LeastFrames x = ShiftEdges.twoBars(0, 0, 4, 4, 0, 4, 4, 0);
+        x.load(1, 0, 0);
+        x.load(1, 1, 0);
+        due("the lesser one is not of FRAME", x.count(6), 0);
+        x = Due.bracket();
         x.all();
         due("a POINT in common", x.count(6), 0);
         due("along each other, apart", ShiftEdges.twoBars(0, 0, 1, 0, 3, 0, 4, 0).count(6), 0);
